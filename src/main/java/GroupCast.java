@@ -267,7 +267,6 @@ public final class GroupCast {
             if (first == null) {
                 last = null;
             }
-            oldest.next = null;
             size--;
             return oldest;
         }
@@ -302,22 +301,19 @@ public final class GroupCast {
             return letter;
         }
 
-        void send(int from, int to, Letter letter) {
-            tally.sent++;
-            Channel channel = between(from, to);
-            if (channel == null || inFlight >= MOST_FLYING) {
-                tally.lost++;
-                return;
-            }
-            channel.put(letter);
-            inFlight++;
-        }
-
         /** To each of those whose bits are set, by their numbers. */
-        void sendToAll(int from, int receivers, int kind, int number, int detail, int[] acts) {
+        void send(int from, int receivers, int kind, int number, int detail, int[] acts) {
             for (int to = 0; to < size; to++) {
-                if (has(receivers, to)) {
-                    send(from, to, new Letter(kind, number, detail, acts));
+                if (!has(receivers, to)) {
+                    continue;
+                }
+                tally.sent++;
+                Channel channel = between(from, to);
+                if (channel == null || inFlight >= MOST_FLYING) {
+                    tally.lost++;
+                } else {
+                    channel.put(new Letter(kind, number, detail, acts));
+                    inFlight++;
                 }
             }
         }
@@ -364,8 +360,9 @@ public final class GroupCast {
         }
 
         private void duplicate() {
-            if (size >= 1) {
-                push(ints[size - 1]);
+            if (size >= 1 && size < MOST_INTS) {
+                ints[size] = ints[size - 1];
+                size++;
             }
         }
 
@@ -467,6 +464,7 @@ public final class GroupCast {
         int stamp;
         int carriedOut;
         int suspects;
+        // Kept through its own flushes and through begins: the document lets neither make it forgotten.
         int lastFlusher = NONE;
 
         Node(int id, int groupSize, Post post, Tally tally) {
@@ -525,8 +523,12 @@ public final class GroupCast {
             return Integer.bitCount(bits) * 2 > groupSize;
         }
 
+        private int others() {
+            return without(members, id);
+        }
+
         private void reply(int to, int kind, int number, int detail) {
-            post.send(id, to, new Letter(kind, number, detail, NO_ACTS));
+            post.send(id, 1 << to, kind, number, detail, NO_ACTS);
         }
 
         int accept(int act) {
@@ -534,28 +536,28 @@ public final class GroupCast {
                 return 2;
             }
             if (leader() != id) {
-                post.send(id, leader(), new Letter(PASS, 0, 0, new int[] {act}));
+                post.send(id, 1 << leader(), PASS, 0, 0, new int[] {act});
                 return 1;
             }
             if (row.isFull()) {
                 return 3;
             }
             putInOrder(act);
+            carryOutWhatMostHold();
             return 1;
         }
 
         private void putInOrder(int act) {
             int place = row.size;
             row.add(act);
-            post.sendToAll(id, without(members, id), ORDER, view, place, new int[] {act});
-            carryOutWhatMostHold();
+            post.send(id, others(), ORDER, view, place, new int[] {act});
         }
 
         private void carryOutWhatMostHold() {
             int most = heldByMost();
             if (most > carriedOut) {
                 carryOutUpTo(most);
-                post.sendToAll(id, without(members, id), DO, view, most, NO_ACTS);
+                post.send(id, others(), DO, view, most, NO_ACTS);
             }
         }
 
@@ -609,6 +611,7 @@ public final class GroupCast {
         private void onPass(Letter letter) {
             if (leadsUnblocked() && !row.isFull()) {
                 putInOrder(letter.firstAct());
+                carryOutWhatMostHold();
             } else {
                 tally.lost++;
             }
@@ -656,7 +659,7 @@ public final class GroupCast {
                 promise = letter.number;
                 lastFlusher = from;
                 task = NO_TASK;
-                post.send(id, from, new Letter(FLUSHED, promise, stamp, row.copy()));
+                post.send(id, 1 << from, FLUSHED, promise, stamp, row.copy());
             }
         }
 
@@ -702,13 +705,12 @@ public final class GroupCast {
             stamp = promise;
             task = SYNCS;
             change.awaited = without(change.members, id);
-            post.sendToAll(id, change.awaited, SYNC, promise, 0, change.best);
+            post.send(id, change.awaited, SYNC, promise, 0, change.best);
         }
 
         private void beginAnew() {
-            int others = without(change.members, id);
-            post.sendToAll(id, others, BEGIN, promise, change.members, NO_ACTS);
-            post.sendToAll(id, members & ~change.members, LEFT, 0, 0, NO_ACTS);
+            post.send(id, without(change.members, id), BEGIN, promise, change.members, NO_ACTS);
+            post.send(id, members & ~change.members, LEFT, 0, 0, NO_ACTS);
             begin(change.members);
         }
 
@@ -727,7 +729,7 @@ public final class GroupCast {
             if (above == 0) {
                 flush();
             } else {
-                post.sendToAll(id, above, ELECT, 0, 0, NO_ACTS);
+                post.send(id, above, ELECT, 0, 0, NO_ACTS);
             }
         }
 
@@ -741,7 +743,7 @@ public final class GroupCast {
             task = FLUSHES;
             tally.flushes++;
             change.start(membersToBe, id, stamp, row.copy());
-            post.sendToAll(id, change.awaited, FLUSH, promise, membersToBe, NO_ACTS);
+            post.send(id, change.awaited, FLUSH, promise, membersToBe, NO_ACTS);
         }
 
         /** Each node has numbers of its own, so that no two changes share one. */

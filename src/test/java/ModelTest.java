@@ -94,12 +94,13 @@ public final class ModelTest {
     }
 
     private int anyNode() {
-        return random.nextInt(40) == 0 ? random.nextInt(12) - 2 : random.nextInt(n);
+        int draw = random.nextInt(80);
+        return draw == 0 ? random.nextInt(12) - 2 : draw == 1 ? random.nextInt() : random.nextInt(n);
     }
 
     private int anyAct() {
         switch (random.nextInt(12)) {
-            case 0: return random.nextInt(20) - 10;
+            case 0: return random.nextInt(10) == 0 ? random.nextInt() : random.nextInt(20) - 10;
             case 1: case 2: case 3: case 4: return 1 + random.nextInt(5);
             default: return 8 * (random.nextInt(2001) - 1000);
         }
